@@ -42,8 +42,11 @@ public final class ModelTest {
             steps = Math.max(steps, test.steps);
             wrong += test.failed ? 1 : 0;
         }
-        System.out.println("most steps " + steps + ", best by trying " + triedAll + ", by mending "
-                + mended);
+        ModelTest stepping = new ModelTest(seed, false);
+        stepping.runMostSteps();
+        wrong += stepping.failed ? 1 : 0;
+        System.out.println("most steps " + Math.max(steps, stepping.steps) 
+                + ", best by trying " + triedAll + ", by mending " + mended);
         Check.due("runs that differ", 0, wrong);
         Check.that("both ways to the best were used", runs < 100 || triedAll > 0 && mended > 0);
         Check.finish();
@@ -58,6 +61,34 @@ public final class ModelTest {
                 draw(QUESTIONS[random.nextInt(QUESTIONS.length)]);
             }
         }
+    }
+
+    /** The net that is cut off behind 400 steps. */
+    private void runMostSteps() throws Exception {
+        ask("towns", 4);
+        for (long[] r : WaysTest.MOST_STEPS) {
+            ask("road", r[0], r[1], r[2], r[3], r[4], r[5], r[6]);
+            ask("toll", model.told(1) - 1, r[7]);
+        }
+        int[][] crowds = {{1, 12, 8, 1}, {1, 12, 2, 9}, {3, 12, 1, 9}};
+        for (int cls = 0; cls < 3; cls++) {
+            for (int what = 0; what < 4; what++) {
+                ask("drivers", cls, what, crowds[cls][what]);
+            }
+        }
+        for (int mode = 0; mode < 3; mode++) {
+            ask("steps", mode);
+            ask("paradoxes", mode);
+            for (int r = 0; r < 12; r++) {
+                ask("load", mode, r);
+                ask("without", mode, r);
+            }
+            for (int cls = 0; cls < 3; cls++) {
+                ask("mean", mode, cls, 0);
+                ask("shown", mode, cls);
+            }
+        }
+        ask("best");
     }
 
     /** Most runs begin with roads and drivers, so that there is something to ask. */

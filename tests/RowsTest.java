@@ -117,6 +117,11 @@ public final class RowsTest {
     private static void judgeGreat() {
         TollWays x = Check.made(3, "0>1=1;1>0=1;0>1=1;0>1=1");
         Check.crowd(x, 0, 1, 2, 1, 1);
+        long[][] below = {{-1, 0, 3, 0}, {1, -1, 0, 0}, {3, 0, -1, 0}, {3, 0, 0, -1}};
+        for (int r = 0; r < 4; r++) {
+            put(x, 0, below[r]);
+            Check.due("34 road " + r + " below 0", 0, x.judge(0, 0));
+        }
         put(x, 0, 36, 34, 0, 0);
         Check.due("34 in circles", 1, x.judge(0, 0));
         put(x, 0, 37, 35, 0, 0);
@@ -211,6 +216,16 @@ public final class RowsTest {
         Check.due("36 no place", Check.BEYOND, x.lays(0, 0, 0));
         x.tray(0, 0, 20);
         Check.due("35 empty again", Check.NO, x.laid(0, 2, 1));
+        for (int i = 0; i < 20; i++) {
+            x.lays(0, i, 0);
+            Check.due("37 plain in place " + i, 5, x.laid(0, i, 36));
+        }
+        Check.due("38 a whole one", 20, x.like(1, 0));
+        x.tray(0, 0, 20);
+        for (int i = 0; i < 20; i++) {
+            Check.due("35 empty place " + i, Check.NO, x.laid(0, i, 1));
+            Check.due("38 place " + i, 5, x.laid(1, i, 1));
+        }
     }
 
     private static void traysKeep() {

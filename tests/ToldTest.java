@@ -253,51 +253,56 @@ public final class ToldTest {
     }
 
     private static void faults() {
+        faultInThreeTowns("", 0);
+        faultInThreeTowns("x", 0);
+        faultInThreeTowns(";", 0);
+        faultInThreeTowns("3", 0);
+        faultInThreeTowns("3x", 0);
+        faultInThreeTowns("0", 1);
+        faultInThreeTowns("0=", 1);
+        faultInThreeTowns("00>1=1", 1);
+        faultInThreeTowns("0>", 2);
+        faultInThreeTowns("0>3", 2);
+        faultInThreeTowns("0>0", 2);
+        faultInThreeTowns("0>0=1", 2);
+        faultInThreeTowns("0>x", 2);
+        faultInThreeTowns("0>1", 3);
+        faultInThreeTowns("0>11=1", 3);
+        faultInThreeTowns("0>1=", 4);
+        faultInThreeTowns("0>1=+1", 4);
+        faultInThreeTowns("0>1=-1", 4);
+        faultInThreeTowns("0>1=1000000", 10);
+        faultInThreeTowns("0>1=1^1:1", 5);
+        faultInThreeTowns("0>1=1 ", 5);
+        faultInThreeTowns(" 0>1=1", 0);
+        faultInThreeTowns("0>1=1+", 6);
+        faultInThreeTowns("0>1=1+1234567", 12);
+        faultInThreeTowns("0>1=1+1+1", 7);
+        faultInThreeTowns("0>1=1+1:1", 7);
+        faultInThreeTowns("0>1=1+1^", 8);
+        faultInThreeTowns("0>1=1+1^:1", 8);
+        faultInThreeTowns("0>1=1+1^37:1", 8);
+        faultInThreeTowns("0>1=1+1^99", 8);
+        faultInThreeTowns("0>1=1+1^99x", 8);
+        faultInThreeTowns("0>1=1+1^3", 9);
+        faultInThreeTowns("0>1=1+1^36", 10);
+        faultInThreeTowns("0>1=1+1^036:1", 10);
+        faultInThreeTowns("0>1=1+1^3;", 9);
+        faultInThreeTowns("0>1=1+1^3:", 10);
+        faultInThreeTowns("0>1=1+1^3:x", 10);
+        faultInThreeTowns("0>1=1+1^3:1234567", 16);
+        faultInThreeTowns("0>1=1+1^3:1+1", 11);
+        faultInThreeTowns("0>1=1;", 6);
+        faultInThreeTowns("0>1=1;;", 6);
+        faultInThreeTowns("0>1=1;1>1=2", 8);
+        faultInThreeTowns("0>1=1;1>2=2;2>0=3+4^40:1", 20);
+    }
+
+    /** On an object of its own, for one object is good for 512 calls. */
+    private static void faultInThreeTowns(String text, int place) {
         TollWays x = new TollWays();
         x.towns(3);
-        fault(x, "", 0);
-        fault(x, "x", 0);
-        fault(x, ";", 0);
-        fault(x, "3", 0);
-        fault(x, "3x", 0);
-        fault(x, "0", 1);
-        fault(x, "0=", 1);
-        fault(x, "00>1=1", 1);
-        fault(x, "0>", 2);
-        fault(x, "0>3", 2);
-        fault(x, "0>0", 2);
-        fault(x, "0>0=1", 2);
-        fault(x, "0>x", 2);
-        fault(x, "0>1", 3);
-        fault(x, "0>11=1", 3);
-        fault(x, "0>1=", 4);
-        fault(x, "0>1=+1", 4);
-        fault(x, "0>1=-1", 4);
-        fault(x, "0>1=1000000", 10);
-        fault(x, "0>1=1^1:1", 5);
-        fault(x, "0>1=1 ", 5);
-        fault(x, " 0>1=1", 0);
-        fault(x, "0>1=1+", 6);
-        fault(x, "0>1=1+1234567", 12);
-        fault(x, "0>1=1+1+1", 7);
-        fault(x, "0>1=1+1:1", 7);
-        fault(x, "0>1=1+1^", 8);
-        fault(x, "0>1=1+1^:1", 8);
-        fault(x, "0>1=1+1^37:1", 8);
-        fault(x, "0>1=1+1^99", 8);
-        fault(x, "0>1=1+1^99x", 8);
-        fault(x, "0>1=1+1^3", 9);
-        fault(x, "0>1=1+1^36", 10);
-        fault(x, "0>1=1+1^036:1", 10);
-        fault(x, "0>1=1+1^3;", 9);
-        fault(x, "0>1=1+1^3:", 10);
-        fault(x, "0>1=1+1^3:x", 10);
-        fault(x, "0>1=1+1^3:1234567", 16);
-        fault(x, "0>1=1+1^3:1+1", 11);
-        fault(x, "0>1=1;", 6);
-        fault(x, "0>1=1;;", 6);
-        fault(x, "0>1=1;1>1=2", 8);
-        fault(x, "0>1=1;1>2=2;2>0=3+4^40:1", 20);
+        fault(x, text, place);
     }
 
     private static void room() {

@@ -1,6 +1,14 @@
 /** Promises 13 to 24: ways and steady loads. */
 public final class WaysTest {
     private static final long BASE = 100_000_000_000_000_000L;
+    /** Roads as of() tells them. */
+    static final long[][] MOST_STEPS = {
+        {0, 2, 2, 0, 6, 1432, 12, 38}, {0, 2, 2, 313, 37, 24367, 1, 366},
+        {2, 3, 2, 3, 4, 2302, 12, 44}, {0, 1, 2, 350, 375, 2, 11, 3049},
+        {0, 1, 2, 3, 749, 44, 19, 2948}, {3, 1, 1, 263, 205, 0, 12, 71},
+        {0, 3, 2, 124, 4, 40, 15, 675}, {0, 1, 0, 490, 92, 843, 10, 5078},
+        {3, 2, 1, 0, 5, 39110, 9, 2}, {3, 1, 0, 569, 0, 3, 15, 946},
+        {2, 1, 2, 1, 254, 87789, 4, 228}, {3, 1, 2, 2, 0, 58, 3, 6}};
     private static final String BRAESS = "0>1=0+10;0>2=50+1;1>3=50+1;2>3=0+10;1>2=10+1";
 
     public static void main(String[] args) {
@@ -17,6 +25,7 @@ public final class WaysTest {
         over();
         busy();
         manySteps();
+        mostSteps();
         Check.finish();
     }
 
@@ -329,5 +338,30 @@ public final class WaysTest {
         Check.crowd(x, 1, 1, 12, 5, 8);
         Check.crowd(x, 2, 1, 12, 2, 4);
         Check.due("18 many steps", 52, x.steps(1));
+    }
+
+    /**
+     * A net that was sought for its steps: it would take 410 until nobody gains, so that loads are
+     * cut off behind 400. They were worked out by Model as well (ModelTest asks it for all of them).
+     */
+    private static TollWays netOfMostSteps() {
+        TollWays x = new TollWays();
+        x.towns(4);
+        for (long[] r : MOST_STEPS) {
+            int number = x.road((int) r[0], (int) r[1], (int) r[2], r[3], r[4], r[5], (int) r[6]);
+            x.toll(number, r[7]);
+        }
+        Check.crowd(x, 0, 1, 12, 8, 1);
+        Check.crowd(x, 1, 1, 12, 2, 9);
+        Check.crowd(x, 2, 3, 12, 1, 9);
+        return x;
+    }
+
+    private static void mostSteps() {
+        TollWays x = netOfMostSteps();
+        Check.due("18 no more than 400", 400, x.steps(1));
+        Check.due("15 all the same", 1, x.is(1));
+        Check.due("19 as loads are then", 41081, x.total(1));
+        loads(x, 1, 13, 1, 12, 1, 1, 2, 18, 2, 1, 2, 3, 13);
     }
 }
