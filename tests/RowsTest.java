@@ -135,6 +135,9 @@ public final class RowsTest {
         Check.due("34 sums are without bound", 0, x.judge(0, 0));
         put(x, 0, Long.MIN_VALUE, 0, Long.MAX_VALUE, 3);
         Check.due("34 the least", 0, x.judge(0, 0));
+        // 2^63 and 2^63 less 2, if the first were read without its sign.
+        put(x, 0, Long.MIN_VALUE, Long.MAX_VALUE - 1, 0, 0);
+        Check.due("34 the least, and as many less 2 back", 0, x.judge(0, 0));
         // 2^32 too much, and 2^32 too little.
         put(x, 0, (1L << 32) + 2, 0, 0, 0);
         Check.due("34 a half too much", 0, x.judge(0, 0));
