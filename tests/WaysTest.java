@@ -322,7 +322,7 @@ public final class WaysTest {
         }
     }
 
-    /** A net on which tolls make drivers of unlike classes change places for long. */
+    /** Drivers of unlike classes change places for long; 52 is from a run, and Model's, too. */
     private static void manySteps() {
         TollWays x = new TollWays();
         x.towns(3);
@@ -342,7 +342,7 @@ public final class WaysTest {
 
     /**
      * A net that was sought for its steps: it would take 410 until nobody gains, so that loads are
-     * cut off behind 400. They were worked out by Model as well (ModelTest asks it for all of them).
+     * cut off behind 400. The answers are from a run of the class; ModelTest asks Model for them, too.
      */
     private static TollWays netOfMostSteps() {
         TollWays x = new TollWays();
