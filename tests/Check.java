@@ -22,6 +22,18 @@ final class Check {
         due(what, 1, holds ? 1 : 0);
     }
 
+    static void same(String what, String want, String got) {
+        asked++;
+        if (!want.equals(got)) {
+            wrong++;
+            System.out.println(what + ": told " + got + ", due is " + want);
+        }
+    }
+
+    static int wrong() {
+        return wrong;
+    }
+
     /** Feeds a text and reads it as roads. */
     static int read(TollWays x, String text) {
         feed(x, text);

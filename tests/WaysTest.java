@@ -344,7 +344,7 @@ public final class WaysTest {
      * A net that was sought for its steps: it would take 410 until nobody gains, so that loads are
      * cut off behind 400. The answers are from a run of the class; ModelTest asks Model for them, too.
      */
-    private static TollWays netOfMostSteps() {
+    static TollWays netOfMostSteps() {
         TollWays x = new TollWays();
         x.towns(4);
         for (long[] r : MOST_STEPS) {
