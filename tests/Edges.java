@@ -109,6 +109,22 @@ final class Edges {
         return x;
     }
 
+    /**
+     * 36 drivers on five roads as dear as may be: all cost 180 times 107,200,000,000,000,000, which
+     * is beyond 2^64, so that a long would be above 0 again.
+     */
+    static TollWays farOver() {
+        TollWays x = new TollWays();
+        x.towns(6);
+        for (int t = 0; t < 5; t++) {
+            x.road(t, t + 1, 2, BASE, SLOPE, SLOPE, 0);
+        }
+        for (int cls = 0; cls < 3; cls++) {
+            Check.crowd(x, cls, 5, 12, 9, 9);
+        }
+        return x;
+    }
+
     /** One driver wants to a town to which no way leads; another of class 0 could drive. */
     static TollWays stuck() {
         TollWays x = Check.made(3, "0>1=5;0>1=6");

@@ -249,6 +249,8 @@ public final class EdgesRowsTest {
         Check.due("2^32 too few", 0, x.judge(0, 0));
         Edges.put(x, 0, Long.MAX_VALUE, 1, 1, Long.MAX_VALUE);
         Check.due("they do, and some are above 36", Check.OVER, x.judge(0, 0));
+        Edges.put(x, 0, 1L << 32, 0, 0, (1L << 32) - 2);
+        Check.due("they do, with halves carried", Check.OVER, x.judge(0, 0));
         Edges.put(x, 0, Long.MAX_VALUE, Long.MAX_VALUE, 0, Long.MAX_VALUE);
         Check.due("2^63 too many", 0, x.judge(0, 0));
     }
@@ -810,6 +812,9 @@ public final class EdgesRowsTest {
         x.toll(11, 1_000_000_000L);
         Check.due("twelve", 12, x.image());
         x.towns(6);
+        for (int r = 0; r < 12; r++) {
+            x.road(4, 5, 1, 99, 0, 0, 0);
+        }
         Check.due("twelve again", 12, x.undo());
         for (int r = 0; r < 12; r++) {
             Check.due("base of road " + r, 10 + r, x.of(r, 3));
@@ -889,8 +894,6 @@ public final class EdgesRowsTest {
         Check.crowd(x, 0, 5, 12, 9, 9);
         Check.crowd(x, 2, 5, 12, 9, 9);
         Check.due("four roads", 4, x.undo());
-        x.towns(4);
-        x.undo();
         int[][] due = {{3, 3, 2, 1}, {2, 1, 2, 3}, {1, 0, 1, 1}};
         for (int cls = 0; cls < 3; cls++) {
             for (int what = 0; what < 4; what++) {

@@ -98,14 +98,16 @@ public final class EdgesTextTest {
         fault("a>1=2", 0);
         fault("0>=2", 2);
         fault("0>a=2", 2);
-        fault("/>1=2", 0);
-        fault(":>1=2", 0);
+        fault("0>/=2", 2);
+        fault("0>:=2", 2);
     }
 
     @Edge(promise = 12, says = "BASE, SLOPE, STEEP 1 to 6")
     static void baseOfSoManyFigures() {
         fault("0>1=", 4);
         fault("0>1=+1", 4);
+        fault("0>1=/", 4);
+        fault("0>1=:", 4);
         comes("0>1=7", 1);
         comes("0>1=000007", 1);
         TollWays x = new TollWays();

@@ -31,16 +31,7 @@ public final class EdgesThoughtTest {
 
     @Edge(promise = 25, says = "(as a whole number without bound; OVER, if it would be beyond a long)")
     static void bestFarOver() {
-        // 36 * 5 * 10^17 less 2^64 is below 0; 37 and more can't be there.
-        TollWays x = new TollWays();
-        x.towns(6);
-        for (int t = 0; t < 5; t++) {
-            x.road(t, t + 1, 0, Edges.BASE, 0, 0, 0);
-        }
-        for (int cls = 0; cls < 3; cls++) {
-            Check.crowd(x, cls, 5, 12, 1, 1);
-        }
-        Check.due("far over", Check.NO, x.best());
+        Check.due("over by more than 2^63", Check.NO, Edges.farOver().best());
     }
 
     @Edge(promise = 25, says = "the least TOTAL that there is for any choice of WAYS of all DRIVERS")

@@ -341,6 +341,7 @@ public final class EdgesToldTest {
         TollWays x = Edges.parallel(1);
         Check.due("the only one", 0, x.close(0));
         Check.due("none is left", Check.NONE, x.close(0));
+        Check.due("so many are there", 0, x.told(1));
     }
 
     @Edge(promise = 4, says = "(is one closed, later ones have 1 less)")
@@ -523,9 +524,9 @@ public final class EdgesToldTest {
             Check.due("what " + what + " " + v, Check.BAD, x.drivers(2, what, v));
         }
         Rich.stays("what " + what, x);
-        x.drivers(2, what, least);
-        Check.due("the least", least, x.drivers(2, what, most));
-        Check.due("the most", most, x.driversOf(2, what));
+        x.drivers(2, what, most);
+        Check.due("the most", most, x.drivers(2, what, least));
+        Check.due("the least", least, x.driversOf(2, what));
     }
 
     @Edge(promise = 8, says = "TO (1 .. 5")

@@ -182,20 +182,13 @@ public final class EdgesWaysTest {
 
     @Edge(promise = 15, says = "OVER: there are, but TOTAL is OVER")
     static void isFarOver() {
-        // 36 times 5 * 10^17 is 1.8 * 10^19: from 0 on again, it would be below 2^63.
-        TollWays x = new TollWays();
-        x.towns(6);
-        for (int t = 0; t < 5; t++) {
-            x.road(t, t + 1, 0, Edges.BASE, 0, 0, 0);
-        }
-        for (int cls = 0; cls < 3; cls++) {
-            Check.crowd(x, cls, 5, 12, 1, 1);
-        }
-        Check.due("over", Check.OVER, x.is(0));
+        Check.due("over", Check.OVER, Edges.farOver().is(0));
+        Check.due("marginal", Check.OVER, Edges.farOver().is(2));
+        TollWays x = Edges.farOver();
         x.drivers(2, 1, 0);
         Check.due("24 of them", Check.OVER, x.is(0));
-        x.drivers(1, 1, 6);
-        Check.due("18 of them", 1, x.is(0));
+        x.drivers(1, 1, 5);
+        Check.due("17 of them", 1, x.is(0));
     }
 
     @Edge(promise = 15, says = "Behind 400 STEPS LOADS are as they are then, and is() tells 1 all the same")
@@ -343,6 +336,19 @@ public final class EdgesWaysTest {
         Check.due("price", 25, x.price(1, 0, 1, 0));
     }
 
+    @Edge(promise = 18, says = "The first such one goes to the WAY with the least PRICE, of several the first")
+    static void stepsToTheFirstOfSeveral() {
+        // As ahead, but road 4 is as good as road 2.
+        TollWays x = Check.made(3, "0>1=0+10;1>2=0+10;1>2=15;0>1=6+6;1>2=15");
+        x.toll(2, 100);
+        x.toll(4, 100);
+        Check.crowd(x, 0, 2, 1, 1, 0);
+        Check.crowd(x, 1, 2, 1, 1, 9);
+        Check.due("one step", 1, x.steps(1));
+        Check.due("to the first", 1, x.load(1, 2));
+        Check.due("not to the second", 0, x.load(1, 4));
+    }
+
     @Edge(promise = 18, says = "until there is none, or 400 STEPS were done")
     static void stepsAtMost() {
         Check.due("of some 410", 400, WaysTest.netOfMostSteps().steps(1));
@@ -377,16 +383,8 @@ public final class EdgesWaysTest {
 
     @Edge(promise = 19, says = "OVER (-6), if a product, or a sum so far, would be beyond a long")
     static void totalOverOnTheWay() {
-        // 25 times 4 * 10^17 and then 25 times as much: two times round, it would be above 0 again.
-        TollWays x = new TollWays();
-        x.towns(6);
-        for (int t = 0; t < 5; t++) {
-            x.road(t, t + 1, 1, Edges.BASE, Edges.SLOPE, 0, 0);
-        }
-        for (int cls = 0; cls < 3; cls++) {
-            Check.crowd(x, cls, 5, 12, 1, 1);
-        }
-        Check.due("over", Check.NO, x.total(0));
+        Check.due("over by more than 2^63", Check.NO, Edges.farOver().total(0));
+        Check.due("tolled", Check.NO, Edges.farOver().total(1));
     }
 
     @Edge(promise = 19, says = "without DRIVERS all LOADS are 0")
@@ -464,14 +462,7 @@ public final class EdgesWaysTest {
 
     @Edge(promise = 20, says = "PRICES are whole numbers without a bound that they come to")
     static void priceOfTheGreatest() {
-        TollWays x = new TollWays();
-        x.towns(6);
-        for (int t = 0; t < 5; t++) {
-            x.road(t, t + 1, 2, Edges.BASE, Edges.SLOPE, Edges.SLOPE, 0);
-        }
-        for (int cls = 0; cls < 3; cls++) {
-            Check.crowd(x, cls, 5, 12, 9, 9);
-        }
+        TollWays x = Edges.farOver();
         long cost = Edges.BASE + 37 * 2 * Edges.SLOPE;
         long loss = 36 * 2 * Edges.SLOPE;
         Check.due("marginal, one more", 45 * (cost + loss), x.price(2, 0, 0, 1));
@@ -672,14 +663,7 @@ public final class EdgesWaysTest {
 
     @Edge(promise = 22, says = "its bits (as an int)")
     static void shownOfTheGreatest() {
-        TollWays x = new TollWays();
-        x.towns(6);
-        for (int t = 0; t < 5; t++) {
-            x.road(t, t + 1, 2, Edges.BASE, Edges.SLOPE, Edges.SLOPE, 0);
-        }
-        for (int cls = 0; cls < 3; cls++) {
-            Check.crowd(x, cls, 5, 12, 9, 9);
-        }
+        TollWays x = Edges.farOver();
         float price = 45L * (Edges.BASE + 72 * Edges.SLOPE + 70 * Edges.SLOPE);
         Check.due("the greatest", Float.floatToIntBits(price * 12f / 12f), x.shown(2, 0));
     }
@@ -734,14 +718,9 @@ public final class EdgesWaysTest {
 
     @Edge(promise = 23, says = "(it is OVER like TOTAL)")
     static void takenOfTheMost() {
-        TollWays x = new TollWays();
-        x.towns(6);
+        TollWays x = Edges.farOver();
         for (int t = 0; t < 5; t++) {
-            x.road(t, t + 1, 2, Edges.BASE, Edges.SLOPE, Edges.SLOPE, 0);
             x.toll(t, 1_000_000_000L);
-        }
-        for (int cls = 0; cls < 3; cls++) {
-            Check.crowd(x, cls, 5, 12, 1, 1);
         }
         Check.due("total is over", Check.OVER, x.is(2));
         Check.due("what is taken isn't", 5 * 36 * 70 * Edges.SLOPE, x.taken(2));
