@@ -476,7 +476,7 @@ public final class TollWays {
         if (sum.isOver) {
             return OVER;
         }
-        if (!steadyOf(0).stands) {
+        if (!Steady.canAllDrive(now, freshPaths())) {
             return 1;
         }
         long least = bestOrNo();
@@ -635,8 +635,8 @@ public final class TollWays {
     }
 
     private long bestOrNo() {
-        // Whether all can drive is alike in all modes.
-        if (!steadyOf(0).stands) {
+        // Whether there are steady loads is alike in all modes, and they need not be found for it.
+        if (!Steady.canAllDrive(now, freshPaths())) {
             return NO;
         }
         if (!cheapestIsFresh) {
